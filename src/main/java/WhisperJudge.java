@@ -469,9 +469,9 @@ public final class WhisperJudge {
             return STATES * (ACTS * k + a);
         }
 
-        /** After how many ticks thing k does all as at tick 0 again. */
+        /** After how many ticks thing k is cleaned or not as from tick 0 on. */
         int period(int k) {
-            return Math.max(cleanEach[k], 1);
+            return cleanEach[k] > 0 ? cleanEach[k] : 1;
         }
 
         private boolean isCleaned(int k, int t) {
@@ -508,17 +508,14 @@ public final class WhisperJudge {
                 }
             }
             for (int k = 0; k * ACTS < acts; k++) {
-                if (isCleaned(k, t)) {
-                    out = cleaned(out, k);
+                if (!isCleaned(k, t)) {
+                    continue;
                 }
-            }
-            return out;
-        }
-
-        private long cleaned(long set, int k) {
-            long out = 0L;
-            for (int s = 0; s < STATES; s++) {
-                out |= moved(set, k, s, firsts[k]);
+                long before = out;
+                out = 0L;
+                for (int s = 0; s < STATES; s++) {
+                    out |= moved(before, k, s, firsts[k]);
+                }
             }
             return out;
         }
@@ -560,8 +557,9 @@ public final class WhisperJudge {
 
     /**
      * The shortest pair of runs that shows a thing. A node is the thing's state in A, that in B, and the tick
-     * as far as cleaning tells ticks apart; an edge is what the sender does in A, in B, and the hearer. Nodes
-     * come into the queue in the order of their first rows, so the first edge that tells A from B is the due one.
+     * as far as cleaning tells ticks apart; an edge is what the sender does in A, in B, and the hearer, and above
+     * these two bits for each answer. Nodes come into the queue in the order of the least rows that lead to them,
+     * so the first edge that tells A from B ends the due pair.
      */
     private static final class Pair {
         static final int WIDTH = 5;
@@ -606,36 +604,30 @@ public final class WhisperJudge {
         private void goOn(Room room, int k, int node) {
             int t = node & 3;
             for (int e = 0; e < EDGES && length == 0; e++) {
-                int inA = metInA(room, k, node, e);
-                int inB = metInB(room, k, node, e);
                 int a = e & 3;
-                if (room.answer(k, inA, a) != room.answer(k, inB, a)) {
-                    write(room, k, node, e);
+                int inA = room.met(k, node >> 4, e >> 4, t);
+                int inB = room.met(k, node >> 2 & 3, e >> 2 & 3, t);
+                int answerA = room.answer(k, inA, a);
+                int answerB = room.answer(k, inB, a);
+                int by = e | answerA << 6 | answerB << 8;
+                if (answerA != answerB) {
+                    write(k, node, by);
                 } else {
-                    int later = (t + 1) % room.period(k);
-                    reach(node(room.left(k, inA, a), room.left(k, inB, a), later), node, e);
+                    reach(node(room.left(k, inA, a), room.left(k, inB, a), (t + 1) % room.period(k)), node, by);
                 }
             }
         }
 
-        private static int metInA(Room room, int k, int node, int e) {
-            return room.met(k, node >> 4, e >> 4, node & 3);
-        }
-
-        private static int metInB(Room room, int k, int node, int e) {
-            return room.met(k, node >> 2 & 3, e >> 2 & 3, node & 3);
-        }
-
-        private void write(Room room, int k, int last, int by) {
+        private void write(int k, int last, int by) {
             length = depth[last] + 1;
             int node = last;
             int e = by;
             for (int t = length - 1; t >= 0 && node != NONE; t--) {
-                rows[WIDTH * t] = number(k, e >> 4);
+                rows[WIDTH * t] = number(k, e >> 4 & 3);
                 rows[WIDTH * t + 1] = number(k, e >> 2 & 3);
                 rows[WIDTH * t + 2] = number(k, e & 3);
-                rows[WIDTH * t + 3] = room.answer(k, metInA(room, k, node, e), e & 3);
-                rows[WIDTH * t + 4] = room.answer(k, metInB(room, k, node, e), e & 3);
+                rows[WIDTH * t + 3] = e >> 6 & 3;
+                rows[WIDTH * t + 4] = e >> 8 & 3;
                 e = edge[node];
                 node = before[node];
             }

@@ -238,7 +238,7 @@ final class Oracle {
         int most = 65;
         boolean[][] has = new boolean[most + 1][4 * 4 * 12];
         for (int l = 1; l <= most; l++) {
-            for (int t = 0; t < 12; t++) {
+            for (int t = 0; t < period(k); t++) {
                 for (int ab = 0; ab < 16; ab++) {
                     has[l][12 * ab + t] = least(k, ab / 4, ab % 4, t, l, has) != null;
                 }
@@ -251,12 +251,16 @@ final class Oracle {
         return null;
     }
 
+    private int period(int k) {
+        return things.get(k).wall == 1 ? things.get(k).clean : 1;
+    }
+
     private int[][] follow(int k, int length, boolean[][] has) {
         int[][] pair = new int[length][];
         int a = things.get(k).first;
         int b = a;
         for (int t = 0; t < length; t++) {
-            int[] step = least(k, a, b, t % 12, length - t, has);
+            int[] step = least(k, a, b, t % period(k), length - t, has);
             pair[t] = step;
             a = step[5];
             b = step[6];
@@ -277,7 +281,7 @@ final class Oracle {
                     int answerA = tick(inA, walls, x, h, t);
                     int answerB = tick(inB, walls, y, h, t);
                     boolean unlike = answerA != answerB;
-                    int later = 12 * (4 * inA[k] + inB[k]) + (t + 1) % 12;
+                    int later = 12 * (4 * inA[k] + inB[k]) + (t + 1) % period(k);
                     if (l == 1 ? unlike : !unlike && has[l - 1][later]) {
                         return new int[] {x, y, h, answerA, answerB, inA[k], inB[k]};
                     }

@@ -10,7 +10,7 @@ public final class OracleTest {
     private static Oracle o;
 
     public static void main(String[] args) {
-        for (int seed = 0; seed < 150; seed++) {
+        for (int seed = 0; seed < 300; seed++) {
             runOfCalls(seed);
         }
         check.end();

@@ -67,7 +67,7 @@ public final class OracleTest {
             if (random.nextInt(5) < 2) {
                 int first = about(4);
                 long next = random.nextLong();
-                long answers = random.nextInt(3) == 0 ? random.nextLong() & random.nextLong() & random.nextLong() : random.nextLong();
+                long answers = answers();
                 check.due(at(seed, "table(" + first + ")"), x.table(first, next, answers), o.table(first, next, answers));
             } else {
                 int kind = about(4);
@@ -75,6 +75,15 @@ public final class OracleTest {
                 check.due(at(seed, "thing(" + kind + ", " + first + ")"), x.thing(kind, first), o.thing(kind, first));
             }
         }
+    }
+
+    /** The fewer answers there are but 0, the longer are the pairs. */
+    private static long answers() {
+        int roll = random.nextInt(4);
+        if (roll == 0) {
+            return 1L << random.nextInt(48);
+        }
+        return roll == 1 ? random.nextLong() & random.nextLong() & random.nextLong() : random.nextLong();
     }
 
     private static void cheapCall(int seed, int which) {

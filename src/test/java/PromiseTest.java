@@ -330,6 +330,17 @@ public final class PromiseTest {
         due("P12 line of the hearer", with(LINE, 2).shown(0), 1);
         due("P12 none such", with(LINE, 0).shown(1), NONE);
         due("P12 none such", with(LINE, 0).shown(-1), NONE);
+        WhisperJudge two = with(LINE, 0);
+        two.thing(QUEUE, 3);
+        for (int i = 0; i < 3; i++) {
+            due("P12 the one", two.shown(0), 2);
+            due("P12 and the other", two.shown(1), 1);
+            two.set(0, CLEANED, 1 + i);
+        }
+        two.wall(0, CLEANED, 2);
+        due("P12 the one cleaned by 2", two.shown(0), 3);
+        two.wall(0, CLEANED, 3);
+        due("P12 the one cleaned by 3", two.shown(0), 2);
         WhisperJudge x = with(CLOCK, 1);
         x.wall(0, PARTED, 0);
         due("P12 silent", x.shown(0), NONE);
@@ -373,6 +384,13 @@ public final class PromiseTest {
         due("P13 rest of the hearer", r.shown(0), 2);
         tick("P13 rest of the hearer", r, 0, 0, 0, 0, 9, 0, 0);
         tick("P13 rest of the hearer", r, 0, 1, 0, 1, 0, 1, 0);
+        // B must do 1, 2, 1 to come to state 3, and the hearer must do what keeps 1 and then what keeps 2.
+        WhisperJudge c = new WhisperJudge();
+        c.table(0, two(0, 0, 1, 1) | two(0, 1, 2, 2) | two(0, 2, 1, 3) | two(1, 1, 0, 1) | two(1, 2, 1, 2), two(1, 3, 0, 2));
+        due("P13 three steps away", c.shown(0), 3);
+        tick("P13 three steps away", c, 0, 0, 0, 1, 0, 0, 0);
+        tick("P13 three steps away", c, 0, 1, 0, 2, 1, 0, 0);
+        tick("P13 three steps away", c, 0, 2, 0, 1, 0, 0, 2);
         // Padding tells 2 for 3 in A already.
         WhisperJudge p = with(CLOCK, 2);
         p.wall(0, PADDED, 2);
@@ -410,6 +428,14 @@ public final class PromiseTest {
             answers |= two(1, s, 0, s);
         }
         y.table(0, next, answers);
+        y.thing(CLOCK, 0);
+        y.clear();
+        y.thing(CLOCK, 0);
+        due("P14 a clock alone", y.letters(1), 2);
+        due("P14 a table comes", y.table(0, next, answers), 1);
+        due("P14 and more can be told", y.letters(1), 4);
+        y.clear();
+        y.table(0, next, answers);
         int[] all = {1, 4, 16, 64};
         for (int n = 0; n < 4; n++) {
             due("P14 all letters(" + n + ")", y.letters(n), all[n]);
@@ -424,6 +450,10 @@ public final class PromiseTest {
         letter("P15 clock", x, 2, 1, 0, 2, 0, 0, 3, 1);
         letter("P15 clock: 3 and then 0 behind it", x, 2, 2, 0, 3, 1, 0, 0, 1);
         letter("P15 clock", x, 2, 3, 0, 3, 1, 0, 3, 0);
+        letter("P15 clock", x, 3, 0, 0, 2, 0, 0, 2, 0, 0, 2, 0);
+        letter("P15 clock", x, 3, 7, 0, 3, 1, 0, 3, 0, 0, 3, 0);
+        due("P15 tick 3 of 3", x.letter(3, 0, 3, 0), NONE);
+        due("P15 letter 8 of 8", x.letter(3, 8, 0, 0), NONE);
         due("P15 letter behind the last", x.letter(2, 4, 0, 0), NONE);
         due("P15 letter -1", x.letter(2, -1, 0, 0), NONE);
         due("P15 tick 2 of 2", x.letter(2, 0, 2, 0), NONE);
@@ -445,6 +475,11 @@ public final class PromiseTest {
         r.table(0, two(0, 0, 0, 1) | two(0, 0, 1, 1) | two(0, 0, 2, 1), two(1, 1, 0, 1));
         letter("P15 rest of the sender", r, 1, 0, 0, 0, 9);
         letter("P15 rest of the sender", r, 1, 1, 0, 1, 0);
+        // Whatever the hearer does leaves state 0, and only state 2 is told, two steps away: it must rest first.
+        WhisperJudge h = new WhisperJudge();
+        h.table(0, two(0, 0, 0, 1) | two(0, 1, 0, 2), two(1, 2, 0, 1));
+        letter("P15 rest of the hearer", h, 2, 0, 9, 0, 0, 0, 0, 1);
+        letter("P15 rest of the hearer", h, 2, 1, 9, 0, 0, 0, 1, 0);
         // What the hearer does next hangs on what was answered: in state 1 act 1 tells more, in state 0 act 0.
         WhisperJudge b = new WhisperJudge();
         b.table(0, two(0, 0, 0, 1) | two(0, 1, 0, 1) | two(0, 1, 1, 2) | two(0, 1, 2, 3) | two(0, 2, 0, 2) | two(0, 3, 0, 3)
@@ -577,6 +612,11 @@ public final class PromiseTest {
         for (int[] w : new int[][] {{0, 1, 0}, {4097, 1, 0}, {-1, 1, 0}, {1, -1, 0}, {1, 3, 0}, {1, 1, -1}, {1, 1, 2}}) {
             due("P20 walls(" + w[0] + ", " + w[1] + ", " + w[2] + ")", x.walls(w[0], w[1], w[2]), NONE);
         }
+        // Two letters, but only for a hearer that rests first (see promise 15): they count as well.
+        WhisperJudge h = new WhisperJudge();
+        h.table(0, two(0, 0, 0, 1) | two(0, 1, 0, 2), two(1, 2, 0, 1));
+        walls("P20 rest of the hearer", h, 2, 2, 0, 0);
+        walls("P20 rest of the hearer", h, 1, 2, 1, 1);
         walls("P20 nothing is shared", new WhisperJudge(), 1, 2, 0, 0);
     }
 

@@ -54,7 +54,8 @@ public final class ReadmeTest {
     public static void main(String[] args) throws Exception {
         List<String> page = Files.readAllLines(README);
         List<Block> blocks = blocksOf(page);
-        Path work = Files.createTempDirectory("readme");
+        // Beside what .ci/run builds, so that nothing is written outside the checkout.
+        Path work = Files.createTempDirectory(Files.createDirectories(Path.of("build").toAbsolutePath()), "readme");
         try {
             calls(blocks, work);
             commands(blocks, work);
